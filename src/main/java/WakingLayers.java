@@ -426,7 +426,6 @@ public final class WakingLayers {
             while (start < length && (bytes[start] == ' ' || bytes[start] == '\n')) {
                 start++;
             }
-            end = start;
             if (start >= length) {
                 sort = END;
                 return;
@@ -913,8 +912,8 @@ public final class WakingLayers {
             actCount++;
         }
 
-        boolean isFor(int aLayer, int aKind, int aRoutine) {
-            return layer == aLayer && kind == aKind && routine == aRoutine;
+        boolean isFor(int aKind, int aRoutine) {
+            return kind == aKind && routine == aRoutine;
         }
     }
 
@@ -1077,6 +1076,8 @@ public final class WakingLayers {
         private final Program program;
         private final Circumstances circumstances;
         private final int[] weights = new int[Program.MOST_LAYERS];
+        private final int[] fitting = new int[Program.MOST_BODIES];
+        private int fittingCount;
 
         Rows(Program program, Circumstances circumstances) {
             this.program = program;
@@ -1085,6 +1086,10 @@ public final class WakingLayers {
 
         /** Puts the numbers of THE ROW's bodies into a row that has room for all BODIES: how many. */
         int fill(int[] row, int thing, int routine) {
+            gatherFitting(program.thingKind[thing], routine);
+            if (fittingCount == 0) {
+                return 0;
+            }
             for (int n = 0; n < program.layerCount; n++) {
                 weights[n] = weight(n, thing);
             }
@@ -1092,10 +1097,10 @@ public final class WakingLayers {
             for (int n = 0; n < program.layerCount; n++) {
                 int layer = takeHeaviest();
                 if (layer >= 0) {
-                    length = addBodies(row, length, layer, thing, routine);
+                    length = addBodies(row, length, layer);
                 }
             }
-            return addBodies(row, length, Body.PLAIN, thing, routine);
+            return addBodies(row, length, Body.PLAIN);
         }
 
         /** Heavier LAYERS come first: by rank, then by WAKING (8 to 23), then by number (7 to 0). */
@@ -1126,17 +1131,28 @@ public final class WakingLayers {
             return heaviest;
         }
 
-        private int addBodies(int[] row, int length, int layer, int thing, int routine) {
-            int longer = length;
-            int kind = program.thingKind[thing];
+        /** All BODIES of a ROUTINE by KINDS from one up, whatever LAYER they are of. */
+        private void gatherFitting(int ownKind, int routine) {
+            fittingCount = 0;
+            int kind = ownKind;
             for (int up = 0; up < Program.MOST_KINDS && kind != Program.NO_KIND; up++) {
-                for (int n = 0; n < program.bodyCount && !isEnded(row, longer); n++) {
-                    if (program.bodies[n].isFor(layer, kind, routine)) {
-                        row[longer] = n;
-                        longer++;
+                for (int n = 0; n < program.bodyCount; n++) {
+                    if (program.bodies[n].isFor(kind, routine)) {
+                        fitting[fittingCount] = n;
+                        fittingCount++;
                     }
                 }
                 kind = program.kindUnder[kind];
+            }
+        }
+
+        private int addBodies(int[] row, int length, int layer) {
+            int longer = length;
+            for (int n = 0; n < fittingCount && !isEnded(row, longer); n++) {
+                if (program.bodies[fitting[n]].layer == layer) {
+                    row[longer] = fitting[n];
+                    longer++;
+                }
             }
             return longer;
         }

@@ -23,6 +23,7 @@ public final class CallsTest {
         sixDeep();
         sixtyBodies();
         spentDoesNoActsOfBehind();
+        spentByBodies();
         ran();
         together();
         togetherWithWakings();
@@ -150,6 +151,7 @@ public final class CallsTest {
         CHECK.ran(x, 0, 1);
         due("behind", x.call(0, 1, 5), 11);
         CHECK.ran(x, 2, 3);
+        due("behind what gives 0", x.call(0, 1, 0), 1);
         due("around without proceed", x.call(0, 2, 5), 10);
         CHECK.ran(x, 4);
         due("behind the last body", x.call(0, 3, 5), 18);
@@ -284,6 +286,16 @@ public final class CallsTest {
         CHECK.ran(x, 5, 6, 3, 4, 2, 2);
         due("anew", x.call(0, 1, 0), FAILS);
         CHECK.ran(x, 3, 4, 2);
+    }
+
+    private static void spentByBodies() {
+        WakingLayers x = CHECK.told("kind;thing 0 0;", "body plain 0 1 before;".repeat(10),
+            "body plain 0 0 behind call 0 3;body plain 0 0 around call 0 1 call 0 1 call 0 1 call 0 1 call 0 1 call 0 2;"
+            + "body plain 0 2 behind call 0 3;" + "body plain 0 2 before;".repeat(7) + "body plain 0 3 before;");
+        due("60 with the last act", x.call(0, 0, 0), FAILS);
+        due("60 begun", x.ran(-1), 60);
+        due("anew", x.call(0, 2, 4), 4);
+        CHECK.ran(x, 12, 13, 14, 15, 16, 17, 18, 19, 20);
     }
 
     private static void ran() {

@@ -107,6 +107,9 @@ public final class FactsAndWakingsTest {
         due("without the last", x.point(), 2);
         x.fact(1, 1);
         due("without both", x.point(), 1);
+        WakingLayers y = CHECK.told("layer ask 0;layer ask 0 bar 0 bar 0;layer ask 0 bar 0;");
+        due("barred by two", y.point(), 6);
+        due("a set", y.layer(1, 3), 1);
     }
 
     private static void barsThenNeeds() {

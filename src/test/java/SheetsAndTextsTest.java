@@ -16,6 +16,7 @@ public final class SheetsAndTextsTest {
         feed();
         read();
         tokens();
+        wholeTape();
         faultsOfKindsAndThings();
         faultsOfLayers();
         faultsOfBodies();
@@ -262,6 +263,25 @@ public final class SheetsAndTextsTest {
         CHECK.fault(x, "kind;0", 5, 1);
         CHECK.fault(x, "kind;<", 5, 1);
         CHECK.fault(x, "kind:", 4, 1);
+    }
+
+    private static void wholeTape() {
+        WakingLayers x = new WakingLayers();
+        String blanks = " ".repeat(595);
+        CHECK.fault(x, blanks + "kinds", 595, 1);
+        CHECK.fault(x, blanks + "kind ", 600, 1);
+        CHECK.fault(x, " " + blanks + "kind", 600, 1);
+        CHECK.fault(x, ("kind" + blanks).substring(0, 598) + "00", 598, 1);
+        CHECK.fault(x, "kind", 4, 1);
+        CHECK.fault(x, "k", 0, 1);
+        Check.feed(x, blanks + "kind;");
+        due("all of it", x.read(), 0);
+        due("a kind", x.count(1), 1);
+        CHECK.fault(x, "zebra;", 0, 1);
+        CHECK.fault(x, "`", 0, 1);
+        CHECK.fault(x, "{", 0, 1);
+        CHECK.fault(x, "kind under 1/", 11, 2);
+        CHECK.fault(x, "kind under 0:", 12, 1);
     }
 
     private static void faultsOfKindsAndThings() {
