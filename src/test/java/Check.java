@@ -44,6 +44,25 @@ final class Check {
         due("fault() of '" + text + "'", x.fault(), number);
     }
 
+    /** A new object that has read some texts, the last of which has a FAULT. */
+    void fault(String ahead, String text, int place, int number) {
+        fault(ahead.isEmpty() ? new WakingLayers() : told(ahead), text, place, number);
+    }
+
+    /** A text that a new object takes behind another. */
+    void fine(String ahead, String text) {
+        WakingLayers x = ahead.isEmpty() ? new WakingLayers() : told(ahead);
+        feed(x, text);
+        due("read() of '" + text + "' is a fault", x.read() < 0 ? 1 : 0, 0);
+        due("fault() of '" + text + "'", x.fault(), 0);
+    }
+
+    /** An ITEM of 0 to 9, by way of FACT 0, which is told anew. */
+    static int item(WakingLayers x, int sheet, int i) {
+        int answer = x.facts(sheet, i, 1);
+        return answer == 1 ? x.fact(0, 0) : answer;
+    }
+
     /** Each body of a row, and that it is followed by NONE. */
     void row(WakingLayers x, int thing, int routine, int... bodies) {
         String what = "row(" + thing + ", " + routine + ", ";
