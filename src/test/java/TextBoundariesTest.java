@@ -14,6 +14,7 @@ public final class TextBoundariesTest {
         feedFull();
         tapeIsEmptyThen();
         names();
+        wholeWords();
         numbersOfThreeFigures();
         signs();
         bytesBetween();
@@ -46,6 +47,7 @@ public final class TextBoundariesTest {
         firstTokenThatHasOne();
         leastOfOneToken();
         nothingComes();
+        nothingIsLeft();
         latestFault();
         layerIsRefused();
         layerSets();
@@ -152,6 +154,32 @@ public final class TextBoundariesTest {
         fault("kind;", "kind underZ0;", 10, 1);
         fault("kind;", "kind undr 0;", 5, 1);
         fault("", "layers ever 1;", 0, 1);
+    }
+
+    // a NAME stands where its word is told, all of it and no more
+    private static void wholeWords() {
+        String[] tellings = {"|kind;", "kind |under 0;", "|thing 0 0;", "|layer span 0;", "layer |span 0;", "layer |thing 0;",
+            "layer |ask 0;", "layer |ever 0;", "layer ask 0 |need 0;", "layer ask 0 |bar 0;", "|body plain 0 0 before;",
+            "body |plain 0 0 before;", "body plain 0 0 |before;", "body plain 0 0 |behind;", "body plain 0 0 |around;",
+            "body plain 0 0 |instead;", "body plain 0 0 before |add 1;", "body plain 0 0 before |mul 1;",
+            "body plain 0 0 before |own;", "body plain 0 0 around |proceed;", "body plain 0 0 before |call 0 0;",
+            "body plain 0 0 before |wake 0;", "body plain 0 0 before |fail;"};
+        for (String telling : tellings) {
+            int start = telling.indexOf('|');
+            String text = telling.replace("|", "");
+            int end = start;
+            while (Character.isLetter(text.charAt(end))) {
+                end++;
+            }
+            fine(WORLD, text);
+            for (int k = start; k < end; k++) {
+                fault(WORLD, text.substring(0, k) + "q" + text.substring(k + 1), start, 1);
+            }
+            fault(WORLD, text.substring(0, end) + "q" + text.substring(end), start, 1);
+            fault(WORLD, text.substring(0, end - 1) + text.substring(end), start, 1);
+            fault(WORLD, text.substring(0, start + 1) + text.substring(end), start, 1);
+            fault(WORLD, text.substring(0, start) + "q" + text.substring(start), start, 1);
+        }
     }
 
     // "NUMBERS (figures, 3 at most)"; a longer one is none
@@ -609,6 +637,23 @@ public final class TextBoundariesTest {
         due("its sort", x.layer(4, 0), 2);
         due("its rank", x.layer(4, 1), 2);
         due("nothing of the other's acts", x.count(4), 2);
+    }
+
+    // the same: of what a FAULT refused nothing is left for what is told behind it
+    private static void nothingIsLeft() {
+        WakingLayers x = CHECK.told("kind;thing 0 7;layer span 1;layer ask 1;");
+        CHECK.fault(x, "layer ask 9 0=9 need 0 bar 1;body 2 0 0 instead fail own own;?", 61, 1);
+        due("read", feedAndRead(x, "layer ask 2;body 2 0 0 before add 1;"), 1);
+        due("its sort", x.layer(2, 0), 2);
+        due("its rank", x.layer(2, 1), 2);
+        due("it needs none", x.layer(2, 2), 0);
+        due("it bars none", x.layer(2, 3), 0);
+        due("it has no test", x.point(), 6);
+        due("its body has one act", x.call(0, 0, 0), 1);
+        CHECK.fault(x, "kind under 0;thing 1 9;?", 23, 1);
+        due("read more", feedAndRead(x, "kind;thing 1 3;body plain 1 0 before own;"), 2);
+        due("its kind is under none", x.call(1, 0, 0), 3);
+        CHECK.row(x, 1, 0, 1);
     }
 
     // "The number of the latest FAULT; 0 before one."
