@@ -1367,7 +1367,10 @@ public final class WakingLayers {
         }
     }
 
-    /** The KINDS of LAYERS, and the ASKS with the BODIES that are theirs. */
+    /**
+     * The KINDS of LAYERS, and the ASKS with the BODIES that are theirs. SIZE and MARK ask for one
+     * another, but of no LAYER in a round: only ASKED ones go from SIZE to MARK, only EVER ones back.
+     */
     private static final class Asker {
         static final int SIZE_ASK = 0, MARK_ASK = 1;
         private static final int ANY = 0, SPANNED = 1, OWNED = 2, ASKED = 3, NEEDING = 4, EVER = 5;
